@@ -17,6 +17,7 @@ public final class CopiesTest {
         masksThatAreDrawnOn(answers);
         spreads(answers);
         spreadWithinOne(answers);
+        wholeSurfaces(answers);
         farAway(answers);
         wrongRectanglesAndSurfaces(answers);
         wrongDepths(answers);
@@ -225,6 +226,17 @@ public final class CopiesTest {
         answers.dueDots("spread within one", board, 0, "010010");
         answers.due("spread on itself", board.spread(0, 0, 0, 6, 1, 0, 0, 0, 1, 0), 6);
         answers.dueDots("spread on itself", board, 0, "101101");
+    }
+
+    private static void wholeSurfaces(Answers answers) {
+        for (int kind = 0; kind < 4; kind++) {
+            BlitBoard board = threeSurfaces(1, 64, 64);
+            board.fill(0, 0, 0, 64, 64, 1, 12);
+            answers.due(KINDS[kind] + " all", plain(board, kind, new int[] {0, 0, 0, 64, 64, 1, 0, 0}), 4096);
+            answers.due(KINDS[kind] + " all", board.count(1, 1), 4096);
+            answers.due(KINDS[kind] + " all on itself", plain(board, kind, new int[] {1, 0, 0, 64, 64, 1, 0, 0}), 4096);
+            answers.due(KINDS[kind] + " all on itself", board.count(1, 1), 4096);
+        }
     }
 
     private static void farAway(Answers answers) {

@@ -21,6 +21,7 @@ public final class SpritesTest {
         drawsWithinTheClip(answers);
         drawsFarAway(answers);
         drawsAsManyAsCanStand(answers);
+        drawsToTheLimit(answers);
         bytesThatCanNotStand(answers);
         dotsThatDoNotFit(answers);
         drawWrong(answers);
@@ -238,6 +239,7 @@ public final class SpritesTest {
         board.set(0, 26, 60, 8);
         answers.due("tell 5000", board.tell(0, 0, 0), 5000);
         answers.due("the last byte", board.part(0, 4999), 0);
+        answers.due("draw 5000", board.draw(0, 0, 0, 0), 0);
         board.set(0, 27, 60, 9);
         answers.due("tell 5001", board.tell(0, 0, 0), NONE);
         answers.due("5000 stay", board.forget(0), 5000);
@@ -318,6 +320,22 @@ public final class SpritesTest {
         Answers.loadBytes(board, 1, 0, 0, 0, 191, 9, 65, 8, 0, 32, 32, 0, 32, 32, 1, 0);
         answers.due("a row of 65", board.draw(1, 0, 0, 0), 14);
         answers.due("none of it is drawn", board.count(0, 9), 0);
+    }
+
+    /** 51 rows of 97 bytes, then 26 dots of two bytes each, and one byte: 5000, and the row does not end. */
+    private static void drawsToTheLimit(Answers answers) {
+        BlitBoard board = withSurface(4, 64, 51);
+        for (int x = 1; x < 64; x += 2) {
+            board.fill(0, x, 0, 1, 51, 7, 12);
+        }
+        answers.due("tell 4947", board.tell(0, 0, 0), 4947);
+        for (int k = 0; k < 26; k++) {
+            board.load(0, 0x4101, 2);
+        }
+        answers.due("ends within a row", board.draw(0, 0, 0, 0), 5000);
+        answers.due("load the last byte", board.load(0, 1, 1), 5000);
+        answers.due("5000 bytes, and ends within a row", board.draw(0, 0, 0, 0), 5001);
+        answers.due("nothing is drawn", board.count(0, 1), 0);
     }
 
     /** The bytes are loaded, and the place told is due on a surface of depth 8 and on one of depth 1. */
