@@ -11,13 +11,19 @@ public final class BlitBoard {
     private static final int MOST_LOADED = 8;
     private static final int LAST_OPERATION = 15;
     private static final int TAKE = 12;
+
+    // What a sprite's byte has beyond its stretch's length.
     private static final int EACH = 64;
     private static final int SAME = 128;
+
+    // No dot has this number, so it can stand among those taken for one that is not to be put.
     private static final int STAYS = -1;
 
     private final Surface[] surfaces;
     private int surfaceCount;
     private final Sprite[] sprites;
+
+    // Both are made once and used by every call: nothing that a run makes is given back.
     private Sprite spare;
     private final int[] taken;
 
