@@ -12,6 +12,7 @@ import java.util.Random;
 public final class AnyNumbersTest {
     private static final int RUNS = 400;
     private static final int CALLS = 1500;
+    private static final int PROMISED = 512;
     private static final int[] ENDS = {
         Integer.MIN_VALUE, Integer.MIN_VALUE + 1, Integer.MIN_VALUE + 63, -(1 << 26), -65, -64, -63, -1, 0, 1, 2, 3, 4,
         5, 7, 8, 9, 12, 15, 16, 62, 63, 64, 65, 128, 255, 256, 4999, 5000, 1 << 26, Integer.MAX_VALUE - 63,
@@ -37,23 +38,31 @@ public final class AnyNumbersTest {
 
     private static void runOf(Answers answers, Method[] calls, Random random) throws IllegalAccessException {
         BlitBoard board = new BlitBoard();
-        if (random.nextInt(4) != 0) {
-            for (int k = 0; k < 4; k++) {
-                board.make(new int[] {1, 4, 8, 4}[k], 1 + random.nextInt(64), 1 + random.nextInt(64));
+        int made = random.nextInt(2) * 4;
+        for (int k = 0; k < made; k++) {
+            board.make(new int[] {1, 4, 8, 4}[k], 1 + random.nextInt(64), 1 + random.nextInt(64));
+        }
+        for (int k = made + 1; k <= CALLS; k++) {
+            int answer = k == PROMISED ? board.check() : answerOf(answers, calls, board, random);
+            if (k <= PROMISED) {
+                answers.due("within the bounds of answers", answer >= -1 && answer <= 5001 ? 1 : 0, 1);
+            }
+            if (k == PROMISED) {
+                answers.due("check", answer, 1);
             }
         }
-        for (int k = 0; k < CALLS; k++) {
-            Method call = calls[random.nextInt(calls.length)];
-            Object[] numbers = numbers(call, random);
-            String told = call.getName() + Arrays.toString(numbers);
-            try {
-                int answer = (Integer) call.invoke(board, numbers);
-                answers.due(told + " is within its bounds", answer >= -1 && answer <= 5001 ? 1 : 0, 1);
-            } catch (InvocationTargetException thrown) {
-                answers.due(told + " threw " + thrown.getCause(), 1, 0);
-            }
+    }
+
+    private static int answerOf(Answers answers, Method[] calls, BlitBoard board, Random random)
+            throws IllegalAccessException {
+        Method call = calls[random.nextInt(calls.length)];
+        Object[] numbers = numbers(call, random);
+        try {
+            return (Integer) call.invoke(board, numbers);
+        } catch (InvocationTargetException thrown) {
+            answers.due(call.getName() + Arrays.toString(numbers) + " threw " + thrown.getCause(), 1, 0);
+            return 0;
         }
-        answers.due("check", board.check(), 1);
     }
 
     private static Object[] numbers(Method call, Random random) {

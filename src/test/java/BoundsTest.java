@@ -31,6 +31,7 @@ public final class BoundsTest {
         test.keyedCountsTheKeyToo();
         test.keyedWithEachKey();
         test.maskedBeyondTheMask();
+        test.maskedDotByDot();
         test.maskedByNothingAndByAll();
         test.maskedByWhatIsDrawnOn();
         test.spreadToEachDepth();
@@ -38,6 +39,7 @@ public final class BoundsTest {
         test.turnWhateverTheClip();
         test.countOfEachNumber();
         test.tellReplaces();
+        test.tellWhateverTheClip();
         test.forgetLeavesNothing();
         test.partOfEachByte();
         test.drawAtEachPlace();
@@ -314,6 +316,26 @@ public final class BoundsTest {
         }
     }
 
+    /** Promise 10: each dot of the mask counts, in surfaces that are wide and in surfaces that are high */
+    private void maskedDotByDot() {
+        int[][] sizes = {{1, 6}, {6, 1}, {2, 5}, {5, 2}, {3, 3}};
+        for (int[] size : sizes) {
+            int dots = size[0] * size[1];
+            for (int open = 0; open < dots; open++) {
+                BlitBoard board = new BlitBoard();
+                board.make(8, size[0], size[1]);
+                board.make(8, size[0], size[1]);
+                board.make(1, size[0], size[1]);
+                board.fill(0, 0, 0, 64, 64, 200, 12);
+                board.set(2, open % size[0], open / size[0], 1);
+                String call = "masked by dot " + open + " of " + size[0] + ", " + size[1];
+                answers.due(call, board.masked(0, 0, 0, size[0], size[1], 1, 0, 0, 2), dots);
+                answers.due(call + ": that one", board.get(1, open % size[0], open / size[0]), 200);
+                answers.due(call + ": no other", board.count(1, 0), dots - 1);
+            }
+        }
+    }
+
     /** Promise 10: "How many of the rectangle's dots had places", whatever the mask has there */
     private void maskedByNothingAndByAll() {
         BlitBoard board = new BlitBoard();
@@ -482,6 +504,19 @@ public final class BoundsTest {
         answers.dueBytes("it is forgotten", board, 1);
         answers.due("tell again", board.tell(1, 0, 0), 4);
         answers.dueBytes("tell again", board, 1, 66, 3, 7, 0);
+    }
+
+    /** Promise 14: a surface is told whole, also the dots beyond its clip. */
+    private void tellWhateverTheClip() {
+        int[][] clips = {{0, 0, 0, 0}, {0, 0, 1, 1}, {0, 0, 2, 2}, {1, 0, 3, 1}, {4, 1, 1, 1}, {0, 0, 5, 2}};
+        for (int[] c : clips) {
+            BlitBoard board = new BlitBoard();
+            board.make(4, 5, 2);
+            Answers.paint(board, 0, "02777", "12010");
+            board.clip(0, c[0], c[1], c[2], c[3]);
+            answers.due("tell whatever the clip is", board.tell(0, 0, 0), 13);
+            answers.dueBytes("tell whatever the clip is", board, 0, 1, 65, 2, 131, 7, 0, 66, 1, 2, 1, 65, 1, 0);
+        }
     }
 
     /** Promise 16: "A sprite has no bytes any more: how many it had" */

@@ -66,7 +66,7 @@ public final class CheckTest {
         return field.get(holder);
     }
 
-    /** No call can break the board, so this reaches into it: the last of eight surfaces, its first or last dot. */
+    /** No call can break the board, so this reaches into it: the first or last dot of one of eight surfaces. */
     private static void brokenDots(Answers answers) throws ReflectiveOperationException {
         int[] depths = {1, 4, 8};
         for (int depth : depths) {
@@ -74,10 +74,12 @@ public final class CheckTest {
             int[] numbers = {0, largest, largest + 1, 2 * largest, -1, Integer.MIN_VALUE, MOST};
             for (int v : numbers) {
                 for (int at = 0; at < 35; at += 34) {
-                    BlitBoard board = eight(depth);
-                    ((int[]) fieldOf(Array.get(fieldOf(board, "surfaces"), 7), "dots"))[at] = v;
                     boolean sound = v >= 0 && v <= largest;
-                    answers.due("check with a dot " + v + " of depth " + depth, board.check(), sound ? 1 : 0);
+                    for (int surface = 0; surface < 8; surface++) {
+                        BlitBoard board = eight(depth);
+                        ((int[]) fieldOf(Array.get(fieldOf(board, "surfaces"), surface), "dots"))[at] = v;
+                        answers.due("check with a dot " + v + " of depth " + depth, board.check(), sound ? 1 : 0);
+                    }
                 }
             }
         }

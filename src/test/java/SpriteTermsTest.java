@@ -160,6 +160,9 @@ public final class SpriteTermsTest {
             answers.due(call + ": its last byte", board.part(1, 4998 + more), more < 2 ? 0 : NONE);
             answers.due(call + ": its first byte", board.part(1, 0), 1);
             answers.due(call + ": its second byte", board.part(1, 1), more < 2 ? 65 : 2);
+            if (more < 2) {
+                answers.due(call + ": draw", board.draw(1, 0, 0, 0), 0);
+            }
             answers.due(call + ": how many", board.forget(1), more < 2 ? 4999 + more : 3);
         }
         BlitBoard board = withSurface(4, 64, 64);
@@ -169,6 +172,11 @@ public final class SpriteTermsTest {
         }
         answers.due("tell the most that there is", board.tell(0, 0, 0), NONE);
         answers.due("what was told before stays", board.forget(0), 64);
+        answers.due("a forgotten one stays so", board.tell(0, 0, 0), NONE);
+        answers.due("a forgotten one stays so", board.forget(0), 0);
+        board.fill(0, 0, 0, 64, 64, 0, 12);
+        answers.due("tell less after too much", board.tell(0, 0, 0), 64);
+        answers.due("tell less after too much", board.part(0, 63), 0);
     }
 
     private static BlitBoard loaded(int depth, List<Integer> bytes) {
